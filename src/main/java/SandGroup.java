@@ -357,7 +357,6 @@ public final class SandGroup {
         }
         int all = 1 << (2 * grid.placeCount());
         int recurrent = 0;
-        Arrays.fill(walked, 0);
         for (int code = 0; code < all; code++) {
             grid.unpack(code, walked);
             fire.spread(walked);

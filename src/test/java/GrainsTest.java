@@ -77,6 +77,13 @@ public final class GrainsTest {
         came("00", 0, 15, 1);
         came("30", 0, 15, 0);
         came("00", 1, 15, 1);
+        // the 2000th grain is the last that is tried
+        came("21##/0030/1#0#/0#02", 4, 1976, 24);
+        came("10##/0200/0#1#/2#01", 4, NOT, NOT);
+        SandGroup late = Sand.of("10##/0200/0#1#/2#01");
+        late.drop(4, 1);
+        late.settle();
+        CHECK.due("a grain later it would come", late.again(4, 1), 24);
         SandGroup x = Sand.of(1, 2, 0, 40);
         x.again(0, 0);
         CHECK.holds("in thought", Sand.show(x).equals("0 40"));

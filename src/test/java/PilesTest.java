@@ -251,6 +251,22 @@ public final class PilesTest {
         u.set(10, 1);
         u.keep(0);
         CHECK.due("12540", u.order(0), NOT);
+        orderAtTheLimit("1221/#2#3/#123/3330", 2000, 2000, 2, 5);
+        orderAtTheLimit("0#01/#12#/3#23/2111", 2001, NOT, 3, 23, 29);
+    }
+
+    /** It is of just that order: so many times make nought, fewer by any prime factor don't. */
+    private static void orderAtTheLimit(String text, int order, int answer, int... primes) {
+        SandGroup x = Sand.of(text);
+        x.keep(0);
+        CHECK.due("order of " + text, x.order(0), answer);
+        x.nought(1);
+        x.times(2, 0, order);
+        CHECK.due("so many times " + text, x.one(1, 2), 2);
+        for (int prime : primes) {
+            x.times(2, 0, order / prime);
+            CHECK.due("fewer times " + text, x.one(1, 2), 0);
+        }
     }
 
     private static int orderBySums(SandGroup x) {
@@ -266,6 +282,12 @@ public final class PilesTest {
     }
 
     private static void one() {
+        SandGroup fresh = Sand.of("00");
+        fresh.keep(0);
+        fresh.set(0, 3);
+        fresh.set(1, 3);
+        fresh.keep(1);
+        CHECK.due("nothing and nought, ahead of any other sum", fresh.one(0, 1), 1);
         SandGroup x = Sand.of("00");
         x.keep(0);
         x.nought(1);
