@@ -1,3 +1,7 @@
+import java.util.HashMap;
+import java.util.LinkedHashMap;
+import java.util.Map;
+
 /** Promises 27 to 29: grains. */
 public final class GrainsTest {
     private static final Check CHECK = new Check("GrainsTest");
@@ -95,15 +99,14 @@ public final class GrainsTest {
         for (String grid : grids) {
             for (int cell = 0; cell < 3; cell++) {
                 SandGroup x = Sand.of(grid);
-                SandGroup y = Sand.of(grid);
-                java.util.HashMap<String, Integer> seen = new java.util.HashMap<>();
-                seen.put(Sand.show(y), 0);
+                String heights = grid;
+                HashMap<String, Integer> seen = new HashMap<>();
+                seen.put(heights, 0);
                 int length = NOT;
                 int ahead = NOT;
                 for (int k = 1; k <= 2000 && length == NOT; k++) {
-                    y.drop(cell, 1);
-                    y.settle();
-                    Integer was = seen.put(Sand.show(y), k);
+                    heights = grained(heights, cell);
+                    Integer was = seen.put(heights, k);
                     if (was != null) {
                         length = k - was;
                         ahead = was;
@@ -113,6 +116,14 @@ public final class GrainsTest {
                 CHECK.due(grid + " again", x.again(cell, 1), ahead);
             }
         }
+    }
+
+    /** A grain dropped and settled, by an object of its own: one object's calls are too few for 2000 grains. */
+    private static String grained(String heights, int cell) {
+        SandGroup x = Sand.of(heights);
+        x.drop(cell, 1);
+        x.settle();
+        return Sand.show(x).replace(" ", "");
     }
 
     private static void againRefuses() {
@@ -143,24 +154,20 @@ public final class GrainsTest {
 
     private static void lotsTruly(String grid, int seed, int n) {
         SandGroup x = Sand.of(grid);
-        SandGroup y = Sand.of(grid);
-        java.util.LinkedHashMap<Integer, Integer> sizes = new java.util.LinkedHashMap<>();
+        String heights = grid;
+        LinkedHashMap<Integer, Integer> sizes = new LinkedHashMap<>();
         long z = seed & 0xFFFFFFFFL;
         int lost = 0;
         int together = 0;
         int greatest = 0;
         for (int k = 0; k < n; k++) {
             z = (z * 1103515245L + 12345L) & 0xFFFFFFFFL;
-            int number = (int) ((z % 2147483648L) / 65536L % y.count(2));
-            int cell = 0;
-            for (int left = number; y.height(cell) < 0 || left > 0; cell++) {
-                if (y.height(cell) >= 0) {
-                    left--;
-                }
-            }
+            SandGroup y = Sand.of(heights);
+            int cell = placeAt(y, (int) ((z % 2147483648L) / 65536L % y.count(2)));
             lost += y.avalanche(cell, 2);
             y.drop(cell, 1);
             int size = y.settle();
+            heights = Sand.show(y).replace(" ", "");
             together += size;
             greatest = Math.max(greatest, size);
             sizes.merge(size, 1, Integer::sum);
@@ -171,13 +178,27 @@ public final class GrainsTest {
         CHECK.due(call + 2, x.lots(seed, n, 2), greatest);
         CHECK.due(call + 3, x.lots(seed, n, 3), sizes.size());
         int i = 0;
-        for (java.util.Map.Entry<Integer, Integer> entry : sizes.entrySet()) {
+        for (Map.Entry<Integer, Integer> entry : sizes.entrySet()) {
             CHECK.due(call + (100 + i), x.lots(seed, n, 100 + i), entry.getKey());
             CHECK.due(call + (400 + i), x.lots(seed, n, 400 + i), entry.getValue());
             i++;
         }
         CHECK.due(call + "no more sizes", x.lots(seed, n, 100 + i), NOT);
         CHECK.due(call + "no more sizes", x.lots(seed, n, 400 + i), NOT);
+    }
+
+    /** The cell of the place of that number. */
+    private static int placeAt(SandGroup x, int number) {
+        int left = number;
+        for (int cell = 0; cell < x.count(0); cell++) {
+            if (x.height(cell) >= 0) {
+                if (left == 0) {
+                    return cell;
+                }
+                left--;
+            }
+        }
+        return NONE;
     }
 
     private static void lotsOfOnePlace() {

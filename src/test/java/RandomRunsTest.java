@@ -7,6 +7,8 @@ import java.util.Random;
 /** All promises: runs of calls by lot, answered as PlainSand answers them. */
 public final class RandomRunsTest {
     private static final int RUNS = 1500;
+    /** Behind so many calls the document leaves an object's answers free. */
+    private static final int MOST_CALLS = 512;
     private static final int[] EDGES = {-1, 0, 1, 2, 3, 4, 5, 6, 8, 9, 15, 16, 39, 40, 41, 60, 98, 99, 100, 101, 103, 105,
         109, 115, 116, 127, 128, 199, 200, 201, 204, 215, 216, 399, 400, 401, 998, 999, 1000, 1000000, 1000001,
         1000000000, 1000000001, Integer.MAX_VALUE, Integer.MIN_VALUE, Integer.MIN_VALUE + 100};
@@ -19,6 +21,7 @@ public final class RandomRunsTest {
     private final SandGroup x = new SandGroup();
     private final PlainSand plain = new PlainSand();
     private final StringBuilder calls = new StringBuilder();
+    private int asked;
 
     private RandomRunsTest(long seed) {
         random = new Random(seed);
@@ -35,7 +38,7 @@ public final class RandomRunsTest {
         int runs = args.length > 0 ? Integer.parseInt(args[0]) : RUNS;
         long first = args.length > 1 ? Long.parseLong(args[1]) : 0;
         for (int run = 0; run < runs; run++) {
-            new RandomRunsTest(first + run).play(methods, run % 50 == 0 ? 512 : 60);
+            new RandomRunsTest(first + run).play(methods, run % 50 == 0 ? 1000 : 60);
         }
         check.end();
     }
@@ -122,7 +125,7 @@ public final class RandomRunsTest {
     }
 
     private int cell() {
-        return random.nextInt(Math.max(1, x.count(0)));
+        return random.nextInt(plain.count(0));
     }
 
     private int what() {
@@ -134,6 +137,10 @@ public final class RandomRunsTest {
     }
 
     private void ask(Method method, Object... values) throws Exception {
+        if (asked == MOST_CALLS) {
+            return;
+        }
+        asked++;
         Method same = PlainSand.class.getMethod(method.getName(), method.getParameterTypes());
         long got = ((Number) method.invoke(x, values)).longValue();
         long want = ((Number) same.invoke(plain, values)).longValue();

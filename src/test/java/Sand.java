@@ -1,3 +1,5 @@
+import java.util.function.IntUnaryOperator;
+
 /** Ways to bring an object of SandGroup to where a test begins. */
 final class Sand {
     private Sand() {
@@ -43,24 +45,23 @@ final class Sand {
 
     /** The heights cell by cell, a wall as #, rows with / between. */
     static String show(SandGroup x) {
-        StringBuilder text = new StringBuilder();
-        for (int cell = 0; cell < x.count(0); cell++) {
-            if (cell > 0) {
-                text.append(cell % x.count(1) == 0 ? "/" : " ");
-            }
-            int height = x.height(cell);
-            text.append(height < 0 ? "#" : String.valueOf(height));
-        }
-        return text.toString();
+        return show(x, x::height);
     }
 
+    /** As show(), of a pile; - where it holds nothing. */
     static String showPile(SandGroup x, int pile) {
+        return show(x, cell -> x.pile(pile, cell));
+    }
+
+    private static String show(SandGroup x, IntUnaryOperator heightAt) {
+        int cells = x.count(0);
+        int columns = x.count(1);
         StringBuilder text = new StringBuilder();
-        for (int cell = 0; cell < x.count(0); cell++) {
+        for (int cell = 0; cell < cells; cell++) {
             if (cell > 0) {
-                text.append(cell % x.count(1) == 0 ? "/" : " ");
+                text.append(cell % columns == 0 ? "/" : " ");
             }
-            int height = x.pile(pile, cell);
+            int height = heightAt.applyAsInt(cell);
             text.append(height == SandGroup.NONE ? "#" : height == SandGroup.EMPTY ? "-" : String.valueOf(height));
         }
         return text.toString();

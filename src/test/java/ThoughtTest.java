@@ -119,9 +119,10 @@ public final class ThoughtTest {
     }
 
     private static void ordersAgreeOnCounts() {
-        SandGroup x = Sand.of("9#99/9999/99#9/9999");
-        x.set(0, 60);
         for (int order = 0; order < 4; order++) {
+            // an object for each order: its calls are not too many then
+            SandGroup x = Sand.of("9#99/9999/99#9/9999");
+            x.set(0, 60);
             int[] counts = new int[16];
             int size = x.settled(0);
             for (int i = 0; i < size; i++) {
