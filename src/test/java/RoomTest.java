@@ -7,7 +7,8 @@ import java.util.IdentityHashMap;
 /** What an object takes of the room that all calls of a run share: all of it when it is made. */
 public final class RoomTest {
     private static final Check CHECK = new Check("RoomTest");
-    private static final int CALLS = 512;
+    /** Some 50 calls each, so that an object has no more than 512. */
+    private static final int PASSES = 10, OBJECTS = 50;
     /** 512 objects, each made by one call, would still take less than half of the room. */
     private static final int MOST_OBJECTS = 100, MOST_ELEMENTS = 7000;
 
@@ -22,7 +23,7 @@ public final class RoomTest {
         CHECK.holds("few objects are made", room.met.size() <= MOST_OBJECTS);
         CHECK.holds("few elements are made", room.elements <= MOST_ELEMENTS);
         long before = room.elements;
-        for (int pass = 0; pass < 20; pass++) {
+        for (int pass = 0; pass < PASSES; pass++) {
             everyCall(x, pass);
         }
         RoomTest behind = new RoomTest();
@@ -77,12 +78,17 @@ public final class RoomTest {
             System.out.println("RoomTest: this machine does not tell what is allocated");
             return;
         }
-        SandGroup x = new SandGroup();
+        SandGroup[] objects = new SandGroup[OBJECTS];
+        for (int i = 0; i < OBJECTS; i++) {
+            objects[i] = new SandGroup();
+        }
         long id = Thread.currentThread().getId();
-        everyCall(x, 0);
+        everyCall(new SandGroup(), 0);
         long before = bean.getThreadAllocatedBytes(id);
-        for (int pass = 0; pass < CALLS; pass++) {
-            everyCall(x, pass);
+        for (SandGroup x : objects) {
+            for (int pass = 0; pass < PASSES; pass++) {
+                everyCall(x, pass);
+            }
         }
         long bytes = bean.getThreadAllocatedBytes(id) - before;
         System.out.println("RoomTest: " + bytes + " bytes allocated by the calls");

@@ -43,6 +43,14 @@ final class Sand {
         }
     }
 
+    /** Just these cells topple by that order. */
+    static void traced(Check check, String what, SandGroup x, int order, int... cells) {
+        for (int i = 0; i < cells.length; i++) {
+            check.due(what + " trace(" + order + ", " + i + ")", x.trace(order, i), cells[i]);
+        }
+        check.due(what + " trace(" + order + ") ends", x.trace(order, cells.length), SandGroup.NOT);
+    }
+
     /** The heights cell by cell, a wall as #, rows with / between. */
     static String show(SandGroup x) {
         return show(x, x::height);

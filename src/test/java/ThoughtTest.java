@@ -77,26 +77,19 @@ public final class ThoughtTest {
         CHECK.due("changes stay", x.count(8), 1);
     }
 
-    private static void traced(SandGroup x, int order, int... cells) {
-        for (int i = 0; i < cells.length; i++) {
-            CHECK.due("trace(" + order + ", " + i + ")", x.trace(order, i), cells[i]);
-        }
-        CHECK.due("trace(" + order + ") ends", x.trace(order, cells.length), NOT);
-    }
-
     private static void ordersByHand() {
         // three in a row: 8 3 8
         SandGroup x = Sand.of(1, 3, 8, 3, 8);
         // LEAST: 0 -> 4 4 8, 0 -> 0 5 8, 1 -> 1 1 9, 2 -> 1 2 5, 2 -> 1 3 1
-        traced(x, 0, 0, 0, 1, 2, 2);
+        Sand.traced(CHECK, "by hand", x, 0, 0, 0, 1, 2, 2);
         // QUEUE: row 0 2; 0 -> 4 4 8, row 2 1 0; 2 -> 4 5 4, row 1 0 2;
         // 1 -> 5 1 5, row 0 2; 0 -> 1 2 5, row 2; 2 -> 1 3 1
-        traced(x, 1, 0, 2, 1, 0, 2);
+        Sand.traced(CHECK, "by hand", x, 1, 0, 2, 1, 0, 2);
         // STACK: row 0 2; 2 -> 8 4 4, row 0 1 2; 2 -> 8 5 0, row 0 1;
         // 1 -> 9 1 1, row 0; 0 -> 5 2 1, row 0; 0 -> 1 3 1
-        traced(x, 2, 2, 2, 1, 0, 0);
+        Sand.traced(CHECK, "by hand", x, 2, 2, 2, 1, 0, 0);
         // TALLEST: 0 -> 4 4 8; 2 -> 4 5 4; 1 -> 5 1 5; 0 -> 1 2 5; 2 -> 1 3 1
-        traced(x, 3, 0, 2, 1, 0, 2);
+        Sand.traced(CHECK, "by hand", x, 3, 0, 2, 1, 0, 2);
         // the nexts come in their order: above, left, right, below, and itself last
         SandGroup y = Sand.of(3, 3, 0, 3, 0, 3, 8, 3, 0, 3, 0);
         int[] first = {4, 1, 3, 5, 7, 4};
@@ -112,10 +105,10 @@ public final class ThoughtTest {
     private static void ordersWithWalls() {
         SandGroup x = Sand.of("#4/49");
         // LEAST: 1 -> # 0 / 4 10; 2 -> 0 11; 3 -> # 1 / 1 7; 3 -> # 2 / 2 3
-        traced(x, 0, 1, 2, 3, 3);
+        Sand.traced(CHECK, "by hand", x, 0, 1, 2, 3, 3);
         // TALLEST: 3 -> # 5 / 5 5; 1 -> # 1 / 5 6; 3 -> # 2 / 6 2; 2 -> # 2 / 2 3
-        traced(x, 3, 3, 1, 3, 2);
-        traced(Sand.of("#"), 1);
+        Sand.traced(CHECK, "by hand", x, 3, 3, 1, 3, 2);
+        Sand.traced(CHECK, "no place", Sand.of("#"), 1);
     }
 
     private static void ordersAgreeOnCounts() {
