@@ -34,6 +34,7 @@ public final class GridEdgesTest {
         settledNames();
         traceEnds();
         commonOfTheFirst60();
+        commonWhereNoneMay();
         CHECK.end();
     }
 
@@ -452,5 +453,22 @@ public final class GridEdgesTest {
             CHECK.due("common(0, " + wrong + ")", y.common(0, wrong), NONE);
         }
         CHECK.due("no place", Sand.of("#").common(0, 1), 0);
+    }
+
+    /** The same, where 3 is left everywhere: by no ORDER does a place that may not TOPPLE do so */
+    private static void commonWhereNoneMay() {
+        for (String text : new String[] {"3", "333", "33/#3", "3333/3333/3333/3333"}) {
+            for (int order = 0; order < 4; order++) {
+                SandGroup x = Sand.of(text);
+                CHECK.due(text + " by " + order, x.common(order, order), 0);
+                CHECK.due(text + " by " + order, x.trace(order, 0), NOT);
+                // the last place alone topples, and what topples by that
+                int last = x.count(0) - 1;
+                x.drop(last, 1);
+                CHECK.due(text + " and a grain by " + order, x.common(order, order), x.settled(0));
+                CHECK.due(text + " and a grain by " + order, x.trace(order, 0), last);
+                CHECK.due(text + " and a grain by " + order, x.trace(order, x.settled(0)), NOT);
+            }
+        }
     }
 }

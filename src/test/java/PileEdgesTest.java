@@ -16,6 +16,7 @@ public final class PileEdgesTest {
         noLessThanUnburntNexts();
         asTheRoundBegan();
         aRoundOfNoneIsNotCounted();
+        asManyRoundsAsPlaces();
         recurrentWithoutPlace();
         groupWithoutPlace();
         theOneNought();
@@ -224,6 +225,29 @@ public final class PileEdgesTest {
             x.keep(0);
             CHECK.due(texts[i] + " rounds", x.burn(0, 1), rounds[i]);
         }
+    }
+
+    /**
+     * "till a ROUND burns none": as many ROUNDS as there can be, one for each of 16 PLACES. They
+     * burn one behind the other along a way to and fro through the rows, as each is as high as
+     * those next to it are many that come later on the way.
+     */
+    private static void asManyRoundsAsPlaces() {
+        int[] way = {0, 1, 2, 3, 7, 6, 5, 4, 8, 9, 10, 11, 15, 14, 13, 12};
+        SandGroup x = Sand.of("2221/1222/2221/0111");
+        x.keep(0);
+        CHECK.due("recurrent", x.burn(0, 0), 1);
+        CHECK.due("rounds", x.burn(0, 1), 16);
+        CHECK.due("none is left", x.burn(0, 2), 0);
+        for (int i = 0; i < 16; i++) {
+            CHECK.due("round of " + way[i], x.burn(0, 100 + way[i]), i + 1);
+        }
+        // one grain less at the last but one: it and the last are left
+        x.set(13, 0);
+        x.keep(0);
+        CHECK.due("not recurrent", x.burn(0, 0), 0);
+        CHECK.due("rounds", x.burn(0, 1), 14);
+        CHECK.due("two are left", x.burn(0, 2), (1 << 13) + (1 << 12));
     }
 
     /** "RECURRENT: all burn (also where there is no PLACE: no ROUNDS then)" */
@@ -509,6 +533,14 @@ public final class PileEdgesTest {
         x.size(4, 4);
         CHECK.due("4 by 4", x.group(), 557568000);
         CHECK.due("nought", x.nought(0), 40);
+        // of a text as well: what stood beside the lesser grid is gone
+        SandGroup w = Sand.of("9999/9999/9#99/9999");
+        Sand.readAll(w, "10");
+        w.keep(0);
+        CHECK.due("1 0", w.order(0), 15);
+        w.times(1, 0, 15);
+        w.nought(2);
+        CHECK.due("fifteen of it", w.one(1, 2), 2);
         // what the walls held ahead is gone: piles with walls there are the same
         SandGroup y = Sand.of("99/99");
         Sand.readAll(y, "1#/11");
